@@ -98,5 +98,9 @@ public final class FaceTest {
         for (String word : NOT_USED) {
             CHECK.holds("the class does without '" + word + "'", !code.contains(word));
         }
+        // All calls of a run share one room, so rows are made with the object and never by a call.
+        for (String line : code.split("\n")) {
+            CHECK.holds(line, !line.contains("new ") || line.matches("\\s+(private )?final \\S+ \\w+ = new .*;"));
+        }
     }
 }

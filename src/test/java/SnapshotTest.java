@@ -11,6 +11,7 @@ public final class SnapshotTest {
         digestWithoutGraph();
         digestOfGraph();
         digestOfWalkers();
+        digestOfMostAssignments();
         digestOfTooManyAssignments();
         CHECK.finish();
     }
@@ -114,6 +115,13 @@ public final class SnapshotTest {
             1, 0, 0, 1, 0,
             2, 1, 0, 3, 0, 0, 2,
             2, four, 0));
+    }
+
+    private static void digestOfMostAssignments() {
+        String assignments2000 = "8:01,12,20,03,04,05,13,16,17,24,25,26";
+        Model model = new Model();
+        model.typeAndLoad(assignments2000);
+        CHECK.due("digest() of 2000 assignments", Check.loaded(assignments2000).digest(), model.digest());
     }
 
     private static void digestOfTooManyAssignments() {
