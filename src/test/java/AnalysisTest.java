@@ -24,12 +24,12 @@ public final class AnalysisTest {
         // The cycle is (1, 0), (0, 1), (1, 1), (2, 0): the node, and the rotor of node 1.
         int[][] cases = {{0, 0, 1}, {0, 1, 0}, {1, 0, 0}, {1, 1, 0}, {2, 0, 0}, {2, 1, 1}};
         for (int[] c : cases) {
-            RotorRouter x = Check.loaded(PATH);
+            RotorRouter x = Routers.loaded(PATH);
             x.addWalker(c[0]);
             x.setRotor(1, c[1]);
             CHECK.due("stepsToCycle(0) at " + c[0] + " with " + c[1], x.stepsToCycle(0), c[2]);
         }
-        RotorRouter two = Check.loaded(PATH);
+        RotorRouter two = Routers.loaded(PATH);
         two.addWalker(2);
         two.addWalker(0);
         CHECK.due("stepsToCycle(0) of two", two.stepsToCycle(0), 0);
@@ -39,19 +39,19 @@ public final class AnalysisTest {
     private static void coverTimeOnPath() {
         int[][] cases = {{0, 0, 4}, {0, 1, 2}, {1, 0, 3}, {1, 1, 3}, {2, 0, 2}, {2, 1, 4}};
         for (int[] c : cases) {
-            RotorRouter x = Check.loaded(PATH);
+            RotorRouter x = Routers.loaded(PATH);
             x.addWalker(c[0]);
             x.setRotor(1, c[1]);
             CHECK.due("coverTime(0) at " + c[0] + " with " + c[1], x.coverTime(0), c[2]);
         }
-        RotorRouter walked = Check.loaded(PATH);
+        RotorRouter walked = Routers.loaded(PATH);
         walked.addWalker(0);
         walked.step(0, 4);
         CHECK.due("coverTime(0) forgets earlier steps", walked.coverTime(0), 2);
     }
 
     private static void coverTimeOnStar() {
-        RotorRouter x = Check.loaded(STAR);
+        RotorRouter x = Routers.loaded(STAR);
         x.addWalker(7);
         x.addWalker(3);
         CHECK.due("coverTime(0) from the center", x.coverTime(0), 13);
@@ -75,22 +75,22 @@ public final class AnalysisTest {
     }
 
     private static void leastCoverTime(String text, int start, int want) {
-        CHECK.due("leastCoverTime(" + start + ") of " + text, Check.loaded(text).leastCoverTime(start), want);
+        CHECK.due("leastCoverTime(" + start + ") of " + text, Routers.loaded(text).leastCoverTime(start), want);
     }
 
     private static void bestRotorsOfSeveral() {
-        RotorRouter path = Check.loaded(PATH);
+        RotorRouter path = Routers.loaded(PATH);
         CHECK.due("bestRotor(0, 1) of a path", path.bestRotor(0, 1), 1);
         CHECK.due("bestRotor(2, 1) of a path", path.bestRotor(2, 1), 0);
         CHECK.due("bestRotor(1, 1) of a path", path.bestRotor(1, 1), 0);
-        RotorRouter star = Check.loaded(STAR);
+        RotorRouter star = Routers.loaded(STAR);
         CHECK.due("bestRotor(7, 7) of a star", star.bestRotor(7, 7), 0);
         CHECK.due("bestRotor(0, 7) of a star", star.bestRotor(0, 7), 1);
         CHECK.due("bestRotor(5, 7) of a star", star.bestRotor(5, 7), 6);
         CHECK.due("bestRotor(6, 7) of a star", star.bestRotor(6, 7), 0);
         CHECK.due("bestRotor(6, 6) of a star", star.bestRotor(6, 6), 0);
         // From 0 the triangle is covered by 0, 1, 2 with rotors 0 1 x and by 0, 2, 1 with 1 x 0.
-        RotorRouter triangle = Check.loaded("3:01,12,20");
+        RotorRouter triangle = Routers.loaded("3:01,12,20");
         CHECK.due("bestRotor(0, 0) of a triangle", triangle.bestRotor(0, 0), 0);
         CHECK.due("bestRotor(0, 1) of a triangle", triangle.bestRotor(0, 1), 1);
         CHECK.due("bestRotor(0, 2) of a triangle", triangle.bestRotor(0, 2), 0);
@@ -104,7 +104,7 @@ public final class AnalysisTest {
     }
 
     private static void tooManyAssignments() {
-        RotorRouter most = Check.loaded(ASSIGNMENTS_2000);
+        RotorRouter most = Routers.loaded(ASSIGNMENTS_2000);
         Model model = new Model();
         model.typeAndLoad(ASSIGNMENTS_2000);
         for (int start = 0; start < 8; start++) {
@@ -114,7 +114,7 @@ public final class AnalysisTest {
             }
         }
         CHECK.holds("leastCoverTime of 2000 is a time", most.leastCoverTime(0) >= 7);
-        RotorRouter over = Check.loaded(ASSIGNMENTS_2025);
+        RotorRouter over = Routers.loaded(ASSIGNMENTS_2025);
         CHECK.due("leastCoverTime(0) of 2025", over.leastCoverTime(0), RotorRouter.TOO_LARGE);
         CHECK.due("leastCoverTime(8) of 2025", over.leastCoverTime(8), RotorRouter.NO_SUCH_NODE);
         CHECK.due("bestRotor(7, 0) of 2025", over.bestRotor(7, 0), RotorRouter.TOO_LARGE);
@@ -123,7 +123,7 @@ public final class AnalysisTest {
     }
 
     private static void searchAsksForNodes() {
-        RotorRouter x = Check.loaded(PATH);
+        RotorRouter x = Routers.loaded(PATH);
         int[] nodes = {-1, 3, 8, Integer.MIN_VALUE, Integer.MAX_VALUE};
         for (int node : nodes) {
             CHECK.due("leastCoverTime(" + node + ")", x.leastCoverTime(node), RotorRouter.NO_SUCH_NODE);
@@ -150,13 +150,13 @@ public final class AnalysisTest {
     }
 
     private static void expected(String text, int start, int steps, int node, double want) {
-        long got = Check.loaded(text).expectedArrivals(start, steps, node);
+        long got = Routers.loaded(text).expectedArrivals(start, steps, node);
         String call = "expectedArrivals(" + start + ", " + steps + ", " + node + ") of " + text;
         CHECK.due(call, got, Double.doubleToLongBits(want));
     }
 
     private static void expectationsAskForNodesAndSteps() {
-        RotorRouter x = Check.loaded(PATH);
+        RotorRouter x = Routers.loaded(PATH);
         int[] nodes = {-1, 3, 8, Integer.MIN_VALUE, Integer.MAX_VALUE};
         for (int node : nodes) {
             CHECK.due("start " + node, x.expectedArrivals(node, 1, 0), RotorRouter.NO_SUCH_NODE);
@@ -171,12 +171,12 @@ public final class AnalysisTest {
     }
 
     private static void analysesChangeNothing() {
-        RotorRouter x = Check.loaded("4:01,12,23,30,02");
+        RotorRouter x = Routers.loaded("4:01,12,23,30,02");
         x.addWalker(3);
         x.addWalker(1);
         x.step(0, 3);
         x.setRotor(2, 1);
-        Check.type(x, "5:");
+        Routers.type(x, "5:");
         long digest = x.digest();
         for (int walker = 0; walker < 2; walker++) {
             x.stepsToCycle(walker);

@@ -2,12 +2,29 @@
 final class Check {
     private int compared = 0;
     private int wrong = 0;
+    private int sentences = 0;
+    private String heading = "";
+
+    /** Runs the test of one sentence of the document, which stands by itself: what one throws stops no other. */
+    void sentence(String place, String text, Runnable test) {
+        sentences++;
+        heading = place + ", \"" + text + "\": ";
+        int before = compared;
+        try {
+            test.run();
+        } catch (RuntimeException thrown) {
+            tellWrong("threw " + thrown);
+        }
+        if (compared == before) {
+            tellWrong("nothing was compared");
+        }
+        heading = "";
+    }
 
     void due(String call, long got, long want) {
         compared++;
         if (got != want) {
-            wrong++;
-            System.out.println(call + " answered " + got + ", due is " + want);
+            tellWrong(call + " answered " + got + ", due is " + want);
         }
     }
 
@@ -15,26 +32,32 @@ final class Check {
         due(what, held ? 1 : 0, 1);
     }
 
+    void same(String what, String got, String want) {
+        compared++;
+        if (!got.equals(want)) {
+            tellWrong(what + ": there is " + got + ", due is " + want);
+        }
+    }
+
     void finish() {
-        System.out.println(compared + " answers compared, " + wrong + " wrong");
+        System.out.println((sentences == 0 ? "" : sentences + " sentences, ")
+            + compared + " answers compared, " + wrong + " wrong");
         if (wrong != 0 || compared == 0) {
             System.exit(1);
         }
     }
 
-    static void type(RotorRouter router, String text) {
-        for (int i = 0; i < text.length(); i++) {
-            router.append(text.charAt(i));
-        }
+    private void tellWrong(String what) {
+        wrong++;
+        System.out.println(heading + what);
     }
 
-    static RotorRouter loaded(String text) {
-        RotorRouter router = new RotorRouter();
-        type(router, text);
-        int nodes = router.load();
-        if (nodes != text.charAt(0) - '0') {
-            throw new IllegalStateException(text + " does not load: " + nodes);
+    /** The digest of these values. */
+    static long hash(long... values) {
+        long hash = 1753;
+        for (long value : values) {
+            hash = 31 * hash + value;
         }
-        return router;
+        return hash;
     }
 }

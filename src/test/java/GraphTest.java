@@ -14,7 +14,7 @@ public final class GraphTest {
     }
 
     private static void orderOfNeighbors() {
-        RotorRouter x = Check.loaded("5:42,10,03,21,40,31");
+        RotorRouter x = Routers.loaded("5:42,10,03,21,40,31");
         int[][] neighbors = {{1, 3, 4}, {0, 2, 3}, {4, 1}, {0, 1}, {2, 0}};
         for (int node = 0; node < 5; node++) {
             CHECK.due("degree(" + node + ")", x.degree(node), neighbors[node].length);
@@ -26,7 +26,7 @@ public final class GraphTest {
     }
 
     private static void star() {
-        RotorRouter x = Check.loaded("8:70,71,72,73,74,75,76");
+        RotorRouter x = Routers.loaded("8:70,71,72,73,74,75,76");
         CHECK.due("degree(7)", x.degree(7), 7);
         for (int node = 0; node < 7; node++) {
             CHECK.due("degree of a ray", x.degree(node), 1);
@@ -40,7 +40,7 @@ public final class GraphTest {
     }
 
     private static void nodesThatDoNotExist() {
-        RotorRouter x = Check.loaded("5:42,10,03,21,40,31");
+        RotorRouter x = Routers.loaded("5:42,10,03,21,40,31");
         for (int node : NO_NODES) {
             CHECK.due("degree(" + node + ")", x.degree(node), RotorRouter.NO_SUCH_NODE);
             CHECK.due("rotor(" + node + ")", x.rotor(node), RotorRouter.NO_SUCH_NODE);
@@ -52,7 +52,7 @@ public final class GraphTest {
     }
 
     private static void indexesOutOfRange() {
-        RotorRouter x = Check.loaded("5:42,10,03,21,40,31");
+        RotorRouter x = Routers.loaded("5:42,10,03,21,40,31");
         long digest = x.digest();
         int[] indexes = {-1, 3, 7, Integer.MIN_VALUE, Integer.MAX_VALUE};
         for (int index : indexes) {
@@ -65,7 +65,7 @@ public final class GraphTest {
     }
 
     private static void rotorsThatAreSet() {
-        RotorRouter x = Check.loaded("5:42,10,03,21,40,31");
+        RotorRouter x = Routers.loaded("5:42,10,03,21,40,31");
         CHECK.due("setRotor(0, 2)", x.setRotor(0, 2), 0);
         CHECK.due("rotor(0)", x.rotor(0), 2);
         CHECK.due("setRotor(0, 1)", x.setRotor(0, 1), 2);
@@ -81,11 +81,11 @@ public final class GraphTest {
 
     private static void linkCounts() {
         RotorRouter x = new RotorRouter();
-        Check.type(x, "2:01");
+        Routers.type(x, "2:01");
         CHECK.due("linkCount() before load()", x.linkCount(), 0);
         x.load();
         CHECK.due("linkCount() of 2:01", x.linkCount(), 1);
-        Check.type(x, "6:01,02,03,04,05,12,13,14,15,23,24,25");
+        Routers.type(x, "6:01,02,03,04,05,12,13,14,15,23,24,25");
         CHECK.due("linkCount() still", x.linkCount(), 1);
         x.load();
         CHECK.due("linkCount() of twelve", x.linkCount(), 12);

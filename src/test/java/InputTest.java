@@ -71,10 +71,10 @@ public final class InputTest {
 
     private static void clearedBuffer() {
         RotorRouter x = new RotorRouter();
-        Check.type(x, "9x");
+        Routers.type(x, "9x");
         CHECK.due("clearInput()", x.clearInput(), 2);
         CHECK.due("clearInput() again", x.clearInput(), 0);
-        Check.type(x, "2:0");
+        Routers.type(x, "2:0");
         CHECK.due("firstError() of what came after", x.firstError(), 3);
     }
 
@@ -128,7 +128,7 @@ public final class InputTest {
 
     private static void firstError(String text, int want) {
         RotorRouter x = new RotorRouter();
-        Check.type(x, text);
+        Routers.type(x, text);
         CHECK.due("firstError() of " + text, x.firstError(), want);
         CHECK.due("firstError() again of " + text, x.firstError(), want);
         CHECK.due("clearInput() of " + text, x.clearInput(), text.length());
@@ -157,7 +157,7 @@ public final class InputTest {
 
     private static void loads(String text, int links) {
         RotorRouter x = new RotorRouter();
-        Check.type(x, text);
+        Routers.type(x, text);
         CHECK.due("load() of " + text, x.load(), text.charAt(0) - '0');
         CHECK.due("linkCount() of " + text, x.linkCount(), links);
         CHECK.due("clearInput() after load() of " + text, x.clearInput(), 0);
@@ -171,7 +171,7 @@ public final class InputTest {
         };
         for (String text : texts) {
             RotorRouter x = new RotorRouter();
-            Check.type(x, text);
+            Routers.type(x, text);
             CHECK.due("load() of " + text, x.load(), RotorRouter.INVALID_INPUT);
             CHECK.due("linkCount() of " + text, x.linkCount(), 0);
             CHECK.due("clearInput() of " + text, x.clearInput(), text.length());
@@ -179,12 +179,12 @@ public final class InputTest {
     }
 
     private static void failedLoadChangesNothing() {
-        RotorRouter x = Check.loaded("3:01,12");
+        RotorRouter x = Routers.loaded("3:01,12");
         x.addWalker(0);
         x.step(0, 3);
         x.snapshot();
         x.step(0, 2);
-        Check.type(x, "4:01,23");
+        Routers.type(x, "4:01,23");
         long digest = x.digest();
         CHECK.due("load() of two parts", x.load(), RotorRouter.INVALID_INPUT);
         CHECK.due("digest() after it", x.digest(), digest);
@@ -193,18 +193,18 @@ public final class InputTest {
         CHECK.due("restore() after it", x.restore(), 1);
         CHECK.due("position(0) after it", x.position(0), 1);
         CHECK.due("firstError() after it", x.firstError(), 7);
-        Check.type(x, ",12");
+        Routers.type(x, ",12");
         CHECK.due("load() of the whole", x.load(), 4);
     }
 
     private static void loadDiscards() {
-        RotorRouter x = Check.loaded("4:01,12,23,30,02");
+        RotorRouter x = Routers.loaded("4:01,12,23,30,02");
         x.addWalker(0);
         x.addWalker(3);
         x.step(0, 20);
         x.setRotor(0, 2);
         x.snapshot();
-        Check.type(x, "4:01,12,23,30,02");
+        Routers.type(x, "4:01,12,23,30,02");
         CHECK.due("load() again", x.load(), 4);
         CHECK.due("walkerCount()", x.walkerCount(), 0);
         CHECK.due("position(0)", x.position(0), RotorRouter.NO_SUCH_WALKER);
@@ -216,11 +216,11 @@ public final class InputTest {
                 CHECK.due("departures", x.departures(node, index), 0);
             }
         }
-        CHECK.due("digest() as of a new object", x.digest(), Check.loaded("4:01,12,23,30,02").digest());
-        Check.type(x, "2:10");
+        CHECK.due("digest() as of a new object", x.digest(), Routers.loaded("4:01,12,23,30,02").digest());
+        Routers.type(x, "2:10");
         CHECK.due("load() of a smaller graph", x.load(), 2);
         CHECK.due("degree(2)", x.degree(2), RotorRouter.NO_SUCH_NODE);
         CHECK.due("degree(0)", x.degree(0), 1);
-        CHECK.due("digest() of a smaller graph", x.digest(), Check.loaded("2:10").digest());
+        CHECK.due("digest() of a smaller graph", x.digest(), Routers.loaded("2:10").digest());
     }
 }

@@ -17,7 +17,7 @@ public final class SnapshotTest {
     }
 
     private static void restoreBringsAllBack() {
-        RotorRouter x = Check.loaded("4:01,12,23,30,02");
+        RotorRouter x = Routers.loaded("4:01,12,23,30,02");
         CHECK.due("restore() before snapshot()", x.restore(), RotorRouter.NO_SNAPSHOT);
         x.addWalker(0);
         x.addWalker(3);
@@ -40,7 +40,7 @@ public final class SnapshotTest {
     }
 
     private static void restoreRemovesWalkers() {
-        RotorRouter x = Check.loaded(PATH);
+        RotorRouter x = Routers.loaded(PATH);
         CHECK.due("snapshot() without walkers", x.snapshot(), 0);
         for (int walker = 0; walker < 4; walker++) {
             x.addWalker(1);
@@ -53,7 +53,7 @@ public final class SnapshotTest {
     }
 
     private static void snapshotIsReplaced() {
-        RotorRouter x = Check.loaded(PATH);
+        RotorRouter x = Routers.loaded(PATH);
         x.addWalker(0);
         x.snapshot();
         x.step(0, 1);
@@ -70,10 +70,10 @@ public final class SnapshotTest {
     }
 
     private static void snapshotKeepsInputAndIsOfOneGraph() {
-        RotorRouter x = Check.loaded(PATH);
-        Check.type(x, "2:");
+        RotorRouter x = Routers.loaded(PATH);
+        Routers.type(x, "2:");
         x.snapshot();
-        Check.type(x, "01");
+        Routers.type(x, "01");
         x.restore();
         CHECK.due("firstError() after restore()", x.firstError(), 4);
         CHECK.due("load()", x.load(), 2);
@@ -85,30 +85,30 @@ public final class SnapshotTest {
     private static void digestWithoutGraph() {
         RotorRouter x = new RotorRouter();
         CHECK.due("digest() of a new object", x.digest(), 1753L * 31 * 31 * 31 * 31);
-        CHECK.due("digest() of a new object", x.digest(), hash(0, 0, 0, 0));
+        CHECK.due("digest() of a new object", x.digest(), Check.hash(0, 0, 0, 0));
         x.append('A');
         x.append('~');
-        CHECK.due("digest() with input", x.digest(), hash(0, 0, 0, 2, 65, 126));
+        CHECK.due("digest() with input", x.digest(), Check.hash(0, 0, 0, 2, 65, 126));
         x.clearInput();
-        CHECK.due("digest() without input", x.digest(), hash(0, 0, 0, 0));
+        CHECK.due("digest() without input", x.digest(), Check.hash(0, 0, 0, 0));
     }
 
     private static void digestOfGraph() {
-        RotorRouter x = Check.loaded("2:01");
+        RotorRouter x = Routers.loaded("2:01");
         long four = Double.doubleToLongBits(4.0);
-        CHECK.due("digest() of 2:01", x.digest(), hash(2, 1, 1, 0, 0, 1, 0, 1, 0, 0, 0, 0, 0, 1, four, 0));
+        CHECK.due("digest() of 2:01", x.digest(), Check.hash(2, 1, 1, 0, 0, 1, 0, 1, 0, 0, 0, 0, 0, 1, four, 0));
         x.append('9');
-        CHECK.due("digest() of it and 9", x.digest(), hash(2, 1, 1, 0, 0, 1, 0, 1, 0, 0, 0, 0, 0, 1, four, 1, 57));
+        CHECK.due("digest() of it and 9", x.digest(), Check.hash(2, 1, 1, 0, 0, 1, 0, 1, 0, 0, 0, 0, 0, 1, four, 1, 57));
     }
 
     private static void digestOfWalkers() {
-        RotorRouter x = Check.loaded(PATH);
+        RotorRouter x = Routers.loaded(PATH);
         x.addWalker(0);
         x.step(0, 3);
         x.addWalker(0);
         // Chances at node 1 are 1 after each odd step, of which there are four.
         long four = Double.doubleToLongBits(4.0);
-        CHECK.due("digest() of two walkers", x.digest(), hash(
+        CHECK.due("digest() of two walkers", x.digest(), Check.hash(
             3, 2,
             1, 0, 1, 1, 2,
             2, 1, 2, 0, 1, 2, 0,
@@ -121,12 +121,12 @@ public final class SnapshotTest {
         String assignments2000 = "8:01,12,20,03,04,05,13,16,17,24,25,26";
         Model model = new Model();
         model.typeAndLoad(assignments2000);
-        CHECK.due("digest() of 2000 assignments", Check.loaded(assignments2000).digest(), model.digest());
+        CHECK.due("digest() of 2000 assignments", Routers.loaded(assignments2000).digest(), model.digest());
     }
 
     private static void digestOfTooManyAssignments() {
         String cube = "8:01,12,23,34,45,56,67,70,04,15,26,37";
-        RotorRouter x = Check.loaded(cube);
+        RotorRouter x = Routers.loaded(cube);
         long[] values = new long[2 + 8 * 9 + 3];
         values[0] = 8;
         values[1] = 12;
@@ -139,14 +139,6 @@ public final class SnapshotTest {
             next += 9;
         }
         values[next + 1] = x.expectedArrivals(0, 7, 1);
-        CHECK.due("digest() of 6561 assignments", x.digest(), hash(values));
-    }
-
-    private static long hash(long... values) {
-        long hash = 1753;
-        for (long value : values) {
-            hash = 31 * hash + value;
-        }
-        return hash;
+        CHECK.due("digest() of 6561 assignments", x.digest(), Check.hash(values));
     }
 }

@@ -22,7 +22,7 @@ public final class WalkTest {
     }
 
     private static void walkersThatAreAdded() {
-        RotorRouter x = Check.loaded(PATH);
+        RotorRouter x = Routers.loaded(PATH);
         CHECK.due("walkerCount()", x.walkerCount(), 0);
         int[] nodes = {2, 0, 2, 1};
         for (int walker = 0; walker < 4; walker++) {
@@ -41,7 +41,7 @@ public final class WalkTest {
     }
 
     private static void walkersThatDoNotExist() {
-        RotorRouter x = Check.loaded(PATH);
+        RotorRouter x = Routers.loaded(PATH);
         x.addWalker(0);
         x.addWalker(0);
         int[] walkers = {-1, 2, 3, 4, Integer.MIN_VALUE, Integer.MAX_VALUE};
@@ -55,7 +55,7 @@ public final class WalkTest {
     }
 
     private static void stepsOnPath() {
-        RotorRouter x = Check.loaded(PATH);
+        RotorRouter x = Routers.loaded(PATH);
         x.addWalker(0);
         int[] nodes = {1, 0, 1, 2, 1, 0, 1, 2};
         int[] rotorsOfOne = {0, 1, 1, 0, 0, 1, 1, 0};
@@ -71,7 +71,7 @@ public final class WalkTest {
     }
 
     private static void stepsOutOfRange() {
-        RotorRouter x = Check.loaded(PATH);
+        RotorRouter x = Routers.loaded(PATH);
         x.addWalker(0);
         long digest = x.digest();
         int[] steps = {0, -1, 1001, Integer.MIN_VALUE, Integer.MAX_VALUE};
@@ -82,7 +82,7 @@ public final class WalkTest {
     }
 
     private static void walkersShareRotors() {
-        RotorRouter x = Check.loaded(TRIANGLE);
+        RotorRouter x = Routers.loaded(TRIANGLE);
         x.addWalker(0);
         x.addWalker(0);
         CHECK.due("step(0, 1)", x.step(0, 1), 1);
@@ -95,7 +95,7 @@ public final class WalkTest {
     }
 
     private static void counters() {
-        RotorRouter x = Check.loaded(PATH);
+        RotorRouter x = Routers.loaded(PATH);
         x.addWalker(0);
         x.addWalker(2);
         x.step(0, 4);
@@ -121,7 +121,7 @@ public final class WalkTest {
     }
 
     private static void countersThatDoNotExist() {
-        RotorRouter x = Check.loaded(PATH);
+        RotorRouter x = Routers.loaded(PATH);
         int[] nodes = {-1, 3, 8, Integer.MIN_VALUE, Integer.MAX_VALUE};
         for (int node : nodes) {
             CHECK.due("arrivals(" + node + ")", x.arrivals(node), RotorRouter.NO_SUCH_NODE);
@@ -136,14 +136,14 @@ public final class WalkTest {
     }
 
     private static void absorbWithoutWalkers() {
-        RotorRouter x = Check.loaded(PATH);
+        RotorRouter x = Routers.loaded(PATH);
         CHECK.due("absorb(1, false) of none", x.absorb(1, false), 0);
         CHECK.due("absorb(1, true) of none", x.absorb(1, true), 0);
     }
 
     /** Both orders end alike: with a sink, the order of the steps changes no counter. */
     private static void absorbOnPath(boolean roundRobin) {
-        RotorRouter x = Check.loaded(PATH);
+        RotorRouter x = Routers.loaded(PATH);
         x.addWalker(0);
         x.addWalker(1);
         CHECK.due("absorb(2)", x.absorb(2, roundRobin), 7);
@@ -162,7 +162,7 @@ public final class WalkTest {
     }
 
     private static void absorbSkipsWalkersAtSink(boolean roundRobin) {
-        RotorRouter x = Check.loaded(TRIANGLE);
+        RotorRouter x = Routers.loaded(TRIANGLE);
         x.addWalker(1);
         x.addWalker(0);
         x.addWalker(1);
@@ -179,7 +179,7 @@ public final class WalkTest {
     }
 
     private static void absorbAsksForSink() {
-        RotorRouter x = Check.loaded(TRIANGLE);
+        RotorRouter x = Routers.loaded(TRIANGLE);
         x.addWalker(0);
         long digest = x.digest();
         int[] sinks = {-1, 3, Integer.MIN_VALUE, Integer.MAX_VALUE};
