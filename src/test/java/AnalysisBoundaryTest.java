@@ -45,6 +45,11 @@ public final class AnalysisBoundaryTest {
         CHECK.sentence("Promise 19", "TOO_LARGE if there are more than 2000 assignments.",
             AnalysisBoundaryTest::bestRotorOfTooMany);
         CHECK.sentence("Promise 20",
+            "the array p has 1.0 for the start and 0.0 for all other nodes; the result e is 0.0",
+            AnalysisBoundaryTest::beginningOfArithmetic);
+        CHECK.sentence("Promise 20", "Each step fills a new array q with 0.0",
+            AnalysisBoundaryTest::newArrayOfEachStep);
+        CHECK.sentence("Promise 20",
             "for each node v in ascending order and each neighbor w of v in the order of the neighbors, q[w]"
                 + " += p[v] / degree(v). After that, e += q[node], and q replaces p.",
             AnalysisBoundaryTest::orderOfArithmetic);
@@ -272,7 +277,11 @@ public final class AnalysisBoundaryTest {
         best(Routers.path(8), 3, 0, 0, 0, 0, 1, 1, 1, 0);
         best(Routers.ASSIGNMENTS_2000, 0, 2, 4, 3, 0, 1, 1, 0, 0);
         best(Routers.ASSIGNMENTS_2000, 6, 2, 4, 2, 1, 1, 0, 1, 0);
-        // One search after another: what the last one left has no say.
+        // The rotors 1 0 0 are as good, but have no say because they are set.
+        RotorRouter set = Routers.loaded(Routers.TRIANGLE);
+        set.setRotor(0, 1);
+        best(set, "a triangle with rotor 1 at node 0", 0, 0, 1, 0);
+        // Nor has what the search before has left.
         RotorRouter again = Routers.loaded("4:10,12,30,31,20");
         for (int round = 0; round < 2; round++) {
             best(again, "the same graph", 0, 1, 1, 0, 1);
@@ -314,6 +323,39 @@ public final class AnalysisBoundaryTest {
         for (int node = 0; node < 8; node++) {
             CHECK.due("bestRotor of 2016", over.bestRotor(node, 7 - node), RotorRouter.TOO_LARGE);
             CHECK.due("bestRotor of 6561", farOver.bestRotor(7 - node, node), RotorRouter.TOO_LARGE);
+        }
+    }
+
+    /** The calls before, and the graph before, leave nothing behind. */
+    private static void beginningOfArithmetic() {
+        RotorRouter x = Routers.loaded(Routers.path(8));
+        for (int start = 0; start < 8; start++) {
+            for (int node = 0; node < 8; node++) {
+                double once = start == node ? 0.0 : Math.abs(start - node) > 1 ? 0.0 : start % 7 == 0 ? 1.0 : 0.5;
+                CHECK.due("expectedArrivals(" + start + ", 1, " + node + ")",
+                    x.expectedArrivals(start, 1, node), Double.doubleToLongBits(once));
+            }
+        }
+        Routers.type(x, "2:01");
+        x.load();
+        CHECK.due("expectedArrivals(1, 1, 0) of a smaller graph", x.expectedArrivals(1, 1, 0), one());
+        Routers.type(x, "3:01,12");
+        x.load();
+        CHECK.due("expectedArrivals(0, 1, 1) of a larger graph", x.expectedArrivals(0, 1, 1), one());
+        CHECK.due("expectedArrivals(0, 1, 2) of a larger graph", x.expectedArrivals(0, 1, 2), 0L);
+    }
+
+    private static long one() {
+        return Double.doubleToLongBits(1.0);
+    }
+
+    private static void newArrayOfEachStep() {
+        RotorRouter x = Routers.loaded("2:01");
+        for (int steps = 0; steps <= 50; steps++) {
+            CHECK.due("expectedArrivals(0, " + steps + ", 0)",
+                x.expectedArrivals(0, steps, 0), Double.doubleToLongBits(steps / 2));
+            CHECK.due("expectedArrivals(0, " + steps + ", 1)",
+                x.expectedArrivals(0, steps, 1), Double.doubleToLongBits(steps - steps / 2));
         }
     }
 
